@@ -20,10 +20,11 @@ public final class RoverPlanner {
     private static final int MOST_ACTIVITIES = 40;
     private static final int MOST_MARKS = 8;
     /**
-     * Within 512 calls there cannot be more: 125 untouched pieces fill the greatest memory,
-     * and each piece of which a part was sent needs a SEND of its own, thus a call of put.
+     * The greatest memory cannot hold more: sending takes the first piece of a priority until
+     * nothing of it is left, so that of each of the 9 priorities at most one piece was sent in
+     * part, and beside 9 such rests there is room for 124 images.
      */
-    private static final int MOST_PIECES = 640;
+    private static final int MOST_PIECES = 133;
 
     private static final int DRIVE = 0;
     private static final int IMAGE = 1;
@@ -644,9 +645,12 @@ public final class RoverPlanner {
 
         private int takeCheapest() {
             int best = 0;
+            int least = costOf(open[0]);
             for (int i = 1; i < openCount && i < PLACES; i++) {
-                if (costOf(open[i]) < costOf(open[best])) {
+                int cost = costOf(open[i]);
+                if (cost < least) {
                     best = i;
+                    least = cost;
                 }
             }
             int place = open[best];
@@ -826,30 +830,13 @@ public final class RoverPlanner {
         private int unitsSent;
         private int unitsTaken;
         private int pieceCount;
-        /** One number a piece, as there are many copies in one room: see pack. */
-        private final int[] pieces = new int[MOST_PIECES];
+        private final int[] pieceTargets = new int[MOST_PIECES];
+        private final int[] pieceLefts = new int[MOST_PIECES];
+        private final int[] piecePriorities = new int[MOST_PIECES];
+        /** The octant of an image, or TOUCH_SIGN. */
+        private final int[] pieceSigns = new int[MOST_PIECES];
         /** By target: a bit for each octant of an image that was sent, and one for a touch. */
         private final int[] sentSigns = new int[MOST_TARGETS];
-
-        static int pack(int target, int left, int priority, int sign) {
-            return left << 12 | priority << 8 | sign << 4 | target;
-        }
-
-        private static int targetOf(int piece) {
-            return piece & 15;
-        }
-
-        private static int signOf(int piece) {
-            return piece >> 4 & 15;
-        }
-
-        private static int priorityOf(int piece) {
-            return piece >> 8 & 15;
-        }
-
-        private static int leftOf(int piece) {
-            return piece >> 12;
-        }
 
         void copyFrom(Rover other) {
             if (other == null) {
@@ -866,7 +853,10 @@ public final class RoverPlanner {
             unitsTaken = other.unitsTaken;
             pieceCount = other.pieceCount;
             for (int i = 0; i < pieceCount && i < MOST_PIECES; i++) {
-                pieces[i] = other.pieces[i];
+                pieceTargets[i] = other.pieceTargets[i];
+                pieceLefts[i] = other.pieceLefts[i];
+                piecePriorities[i] = other.piecePriorities[i];
+                pieceSigns[i] = other.pieceSigns[i];
             }
             for (int i = 0; i < MOST_TARGETS; i++) {
                 sentSigns[i] = other.sentSigns[i];
@@ -884,7 +874,7 @@ public final class RoverPlanner {
         int unitsKept() {
             int units = 0;
             for (int i = 0; i < pieceCount && i < MOST_PIECES; i++) {
-                units += leftOf(pieces[i]);
+                units += pieceLefts[i];
             }
             return units;
         }
@@ -920,13 +910,13 @@ public final class RoverPlanner {
             }
             switch (what) {
                 case 0:
-                    return targetOf(pieces[piece]);
+                    return pieceTargets[piece];
                 case 1:
-                    return leftOf(pieces[piece]);
+                    return pieceLefts[piece];
                 case 2:
-                    return priorityOf(pieces[piece]);
+                    return piecePriorities[piece];
                 default:
-                    return signOf(pieces[piece]);
+                    return pieceSigns[piece];
             }
         }
 
@@ -938,8 +928,8 @@ public final class RoverPlanner {
         int signsOfAll(int target) {
             int signs = signsSent(target);
             for (int i = 0; i < pieceCount && i < MOST_PIECES; i++) {
-                if (targetOf(pieces[i]) == target) {
-                    signs |= 1 << signOf(pieces[i]);
+                if (pieceTargets[i] == target) {
+                    signs |= 1 << pieceSigns[i];
                 }
             }
             return signs;
@@ -949,25 +939,27 @@ public final class RoverPlanner {
             return pieceCount < 0 || pieceCount >= MOST_PIECES;
         }
 
-        void keep(int piece) {
-            if (!isFull()) {
-                pieces[pieceCount] = piece;
-                pieceCount++;
-                unitsTaken += leftOf(piece);
+        void keep(int target, int size, int priority, int sign) {
+            if (isFull()) {
+                return;
             }
+            pieceTargets[pieceCount] = target;
+            pieceLefts[pieceCount] = size;
+            piecePriorities[pieceCount] = priority;
+            pieceSigns[pieceCount] = sign;
+            pieceCount++;
+            unitsTaken += size;
         }
 
         void sendUnits(int rate) {
             int rest = rate;
             for (int n = 0; n < MOST_PIECES && rest > 0 && hasPiece(0); n++) {
                 int first = mostUrgent();
-                int piece = pieces[first];
-                int part = Math.min(rest, leftOf(piece));
+                int part = Math.min(rest, pieceLefts[first]);
                 rest -= part;
                 unitsSent += part;
-                if (part < leftOf(piece)) {
-                    pieces[first] = pack(targetOf(piece), leftOf(piece) - part, priorityOf(piece), signOf(piece));
-                } else {
+                pieceLefts[first] -= part;
+                if (pieceLefts[first] == 0) {
                     finishPiece(first);
                 }
             }
@@ -976,23 +968,26 @@ public final class RoverPlanner {
         private int mostUrgent() {
             int best = 0;
             for (int i = 1; i < pieceCount && i < MOST_PIECES; i++) {
-                if (priorityOf(pieces[i]) > priorityOf(pieces[best])) {
+                if (piecePriorities[i] > piecePriorities[best]) {
                     best = i;
                 }
             }
             return best;
         }
 
-        private void finishPiece(int place) {
-            if (!hasPiece(place)) {
+        private void finishPiece(int piece) {
+            if (!hasPiece(piece)) {
                 return;
             }
-            int target = targetOf(pieces[place]);
-            if (target < MOST_TARGETS) {
-                sentSigns[target] |= 1 << signOf(pieces[place]);
+            int target = pieceTargets[piece];
+            if (target >= 0 && target < MOST_TARGETS) {
+                sentSigns[target] |= 1 << pieceSigns[piece];
             }
-            for (int i = place; i + 1 < pieceCount && i + 1 < MOST_PIECES; i++) {
-                pieces[i] = pieces[i + 1];
+            for (int i = piece; i + 1 < pieceCount && i + 1 < MOST_PIECES; i++) {
+                pieceTargets[i] = pieceTargets[i + 1];
+                pieceLefts[i] = pieceLefts[i + 1];
+                piecePriorities[i] = piecePriorities[i + 1];
+                pieceSigns[i] = pieceSigns[i + 1];
             }
             pieceCount--;
         }
@@ -1208,29 +1203,32 @@ public final class RoverPlanner {
             if (Ground.distance(rover.x, rover.y, x, y) > IMAGE_REACH || !ground.isSeen(rover.x, rover.y, x, y)) {
                 return OUT_OF_REACH;
             }
-            int sign = Ground.octantOf(rover.x, rover.y, x, y);
-            return collect(rover, Rover.pack(target, IMAGE_SIZE, priority, sign), IMAGE_SIZE, 6, 3);
+            int reason = useTool(rover, IMAGE_SIZE, 6, 3);
+            if (reason == FINE) {
+                rover.keep(target, IMAGE_SIZE, priority, Ground.octantOf(rover.x, rover.y, x, y));
+            }
+            return reason;
         }
 
         private int takeTouch(Rover rover, int target, int priority) {
             if (Ground.distance(rover.x, rover.y, targets.xOf(target), targets.yOf(target)) > TOUCH_REACH) {
                 return OUT_OF_REACH;
             }
-            return collect(rover, Rover.pack(target, TOUCH_SIZE, priority, TOUCH_SIGN), TOUCH_SIZE, 25, 5);
+            int reason = useTool(rover, TOUCH_SIZE, 25, 5);
+            if (reason == FINE) {
+                rover.keep(target, TOUCH_SIZE, priority, TOUCH_SIGN);
+            }
+            return reason;
         }
 
-        private int collect(Rover rover, int piece, int size, int minutes, int use) {
+        private int useTool(Rover rover, int size, int minutes, int use) {
             if (rover.temperature < TOOL_COLD) {
                 return TOO_COLD;
             }
             if (rover.isFull() || rover.unitsKept() + size > memory) {
                 return NO_ROOM;
             }
-            int reason = passMinutes(rover, minutes, true, use);
-            if (reason == FINE) {
-                rover.keep(piece);
-            }
-            return reason;
+            return passMinutes(rover, minutes, true, use);
         }
 
         private int transmit(Rover rover, int minutes) {

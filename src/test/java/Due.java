@@ -1,0 +1,47 @@
+/** Counts the calls that do not answer what is due. */
+final class Due {
+    private static int wrong;
+    private static int asked;
+
+    private Due() { }
+
+    static void is(String call, Object due, Object got) {
+        asked++;
+        if (!due.equals(got)) {
+            wrong++;
+            System.out.println(call + " answered " + got + ", due is " + due);
+        }
+    }
+
+    /** The very class: one below it is what the machine throws by itself. */
+    static void fails(String call, Class<?> due, Runnable run) {
+        Class<?> got = null;
+        try {
+            run.run();
+        } catch (RuntimeException e) {
+            got = e.getClass();
+        }
+        asked++;
+        if (got != due) {
+            wrong++;
+            System.out.println(call + " threw " + got + ", due is " + due);
+        }
+    }
+
+    static void outside(String call, Runnable run) {
+        fails(call, IndexOutOfBoundsException.class, run);
+    }
+
+    static void argument(String call, Runnable run) {
+        fails(call, IllegalArgumentException.class, run);
+    }
+
+    static void state(String call, Runnable run) {
+        fails(call, IllegalStateException.class, run);
+    }
+
+    static void end(String test) {
+        System.out.println(test + ": " + asked + " answers, " + wrong + " wrong");
+        System.exit(wrong == 0 ? 0 : 1);
+    }
+}
