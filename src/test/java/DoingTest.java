@@ -25,6 +25,7 @@ public final class DoingTest {
         checking();
         foretelling();
         running();
+        reasonOfNoPlan();
         failingChangesNothing();
         Due.end("DoingTest");
     }
@@ -419,6 +420,8 @@ public final class DoingTest {
         Due.is("the plan is as it was", 6, p.count(2));
         p.remove(0);
         p.remove(4);
+        Due.is("the reason is not kept", 0, p.reason());
+        Due.is("nor the place", -1, p.check());
         p.put(0, SLEEP, 15, 0);
         p.put(1, IMAGE, 0, 1);
         Due.is("an earlier activity is why a later one fails", 1, p.check());
@@ -486,6 +489,15 @@ public final class DoingTest {
         Due.is("run the rest", 2, p.run(40));
         Due.is("nothing is left", 0, p.count(2));
         Due.is("time at the end", 60, p.rover(0));
+    }
+
+    private static void reasonOfNoPlan() {
+        RoverPlanner p = new RoverPlanner();
+        p.put(0, SEND, 1, 0);
+        Due.is("the reason", 6, p.reason());
+        p.remove(0);
+        Due.is("the reason of no plan", 0, p.reason());
+        Due.is("no place", -1, p.check());
     }
 
     private static void failingChangesNothing() {

@@ -205,6 +205,11 @@ public final class GroundTest {
         way(p, 0, 0, 3, 0, 15, 82, 3, 0);
         p.raise(1, 23, 0, 23, 1);
         way(p, 0, 0, 1, 0, 8, 56, 1, 0);
+        RoverPlanner corners = new RoverPlanner();
+        corners.raise(0, 0, 0, 0, 3);
+        corners.raise(23, 23, 23, 23, 3);
+        way(corners, 1, 0, 0, 0, 5, 26, 1, 4);
+        way(corners, 22, 23, 23, 23, 5, 26, 1, 0);
         p.raise(1, 23, 0, 23, 1);
         way(p, 0, 0, 1, 0, -1, -1, -1, -1);
         way(p, 1, 0, 0, 0, -1, -1, -1, -1);

@@ -12,20 +12,12 @@ public final class MakingTest {
         madePastWhatFails();
         madeWrong();
         marked();
+        markedPieces();
         markedWrong();
         backWithLess();
         sentShare();
         digests();
         Due.end("MakingTest");
-    }
-
-    private static int act(RoverPlanner p, int kind, int a, int b) {
-        p.put(0, kind, a, b);
-        int done = p.run(1);
-        if (done == 0) {
-            p.remove(0);
-        }
-        return done;
     }
 
     /** The plan from a place on: three numbers an activity. */
@@ -46,13 +38,21 @@ public final class MakingTest {
         Due.is("nearest of a diagonal", 404, p.nearest(1));
         Due.is("nearest is where the rover is", 0, p.nearest(2));
         Due.is("nearest far away", 1717, p.nearest(3));
-        act(p, 0, 3, 1);
+        Acts.one(p, 0, 3, 1);
         Due.is("nearest from elsewhere", 401, p.nearest(0));
         Due.is("nearest of a diagonal from elsewhere", 404, p.nearest(1));
         p.raise(7, 7, 0, 3, 99);
         // what is not seen from the side of the rover is seen from behind the wall, or past its end
         Due.is("the wall hides the nearest place", false, p.sees(4, 0, 10, 0));
         Due.is("nearest past a wall", 704, p.nearest(0));
+        RoverPlanner far = new RoverPlanner();
+        far.addTarget(2, 0, 1, 1);
+        far.addTarget(12, 2, 1, 1);
+        far.addTarget(1, 1, 1, 4);
+        Acts.one(far, 0, 12, 12);
+        Due.is("nearest from the other side", 806, far.nearest(0));
+        Due.is("nearest from below", 1208, far.nearest(1));
+        Due.is("nearest to touch from the other side", 202, far.nearest(2));
         RoverPlanner q = new RoverPlanner();
         q.addTarget(8, 0, 1, 1);
         q.pave(2, 2, 0, 23, 0, true);
@@ -69,29 +69,29 @@ public final class MakingTest {
         p.addTarget(5, 5, 1, 2);
         p.addTarget(5, 5, 1, 1);
         p.addPass(0, 1440, 20);
-        act(p, 0, 5, 5);
+        Acts.one(p, 0, 5, 5);
         Due.is("nearest is here", 505, p.nearest(0));
-        act(p, 1, 0, 1);
+        Acts.one(p, 1, 0, 1);
         Due.is("the smallest y of several", 504, p.nearest(0));
         Due.is("images of another target do not count", 505, p.nearest(1));
         p.pave(5, 5, 4, 4, 0, true);
         Due.is("the smallest x of several", 405, p.nearest(0));
         p.pave(4, 4, 5, 5, 0, true);
         Due.is("the other x", 605, p.nearest(0));
-        act(p, 3, 2, 0);
+        Acts.one(p, 3, 2, 0);
         Due.is("an octant that was sent is not needed, too", 605, p.nearest(0));
-        act(p, 0, 6, 5);
-        act(p, 1, 0, 1);
+        Acts.one(p, 0, 6, 5);
+        Acts.one(p, 1, 0, 1);
         Due.is("it needs nothing more", -1, p.nearest(0));
         RoverPlanner q = new RoverPlanner();
         q.addTarget(0, 0, 1, 3);
-        act(q, 1, 0, 1);
+        Acts.one(q, 1, 0, 1);
         Due.is("the second", 100, q.nearest(0));
-        act(q, 0, 1, 0);
-        act(q, 1, 0, 1);
+        Acts.one(q, 0, 1, 0);
+        Acts.one(q, 1, 0, 1);
         Due.is("the third: of three places with 4 minutes", 101, q.nearest(0));
-        act(q, 0, 1, 1);
-        act(q, 1, 0, 1);
+        Acts.one(q, 0, 1, 1);
+        Acts.one(q, 1, 0, 1);
         Due.is("no more", -1, q.nearest(0));
     }
 
@@ -108,10 +108,10 @@ public final class MakingTest {
         q.addTarget(1, 1, 1, 4);
         q.pave(0, 23, 0, 23, 0, true);
         Due.is("the rover stands in a hazard", 0, q.nearest(0));
-        act(q, 6, 1, 0);
-        act(q, 1, 0, 1);
+        Acts.one(q, 6, 1, 0);
+        Acts.one(q, 1, 0, 1);
         Due.is("an image is no touch", 0, q.nearest(0));
-        act(q, 2, 0, 1);
+        Acts.one(q, 2, 0, 1);
         Due.is("it is touched", -1, q.nearest(0));
         RoverPlanner r = new RoverPlanner();
         r.addTarget(3, 0, 1, 4);
@@ -167,6 +167,18 @@ public final class MakingTest {
         // 1000 / 103 and 1000 / 101 are 9
         Due.is("make: the smallest number of several", 4, r.make(600));
         plan("smallest first", r, 0, 17, 17, 1, 0, 5, 0, 17, 17, 1, 1, 5);
+        RoverPlanner t = new RoverPlanner();
+        t.addTarget(22, 21, 1, 1);
+        t.addTarget(21, 21, 1, 1);
+        // 1000 / 95 and 1000 / 91 are 10
+        t.make(600);
+        plan("smallest first again", t, 0, 16, 15, 1, 0, 5, 0, 16, 15, 1, 1, 5);
+        RoverPlanner u = new RoverPlanner();
+        u.addTarget(7, 0, 40, 1);
+        u.addTarget(0, 0, 10, 1);
+        // 40000 / 5 and 10000 / 1
+        u.make(600);
+        plan("what is here first", u, 0, 0, 0, 1, 1, 5, 0, 1, 0, 1, 0, 5);
         RoverPlanner s = new RoverPlanner();
         s.addTarget(0, 0, 1, 1);
         s.addTarget(0, 0, 2, 1);
@@ -254,7 +266,7 @@ public final class MakingTest {
         plan("without a way", q, 0, 0, 0, 1, 1, 5);
         RoverPlanner r = new RoverPlanner();
         r.addTarget(0, 0, 1, 1);
-        act(r, 5, 30, 0);
+        Acts.one(r, 5, 30, 0);
         Due.is("make when it is too cold", 0, r.make(600));
         RoverPlanner s = new RoverPlanner();
         s.pave(3, 3, 0, 23, 0, true);
@@ -287,7 +299,7 @@ public final class MakingTest {
         p.run(1);
         Due.is("a third mark", 2, p.mark());
         p.run(1);
-        act(p, 5, 0, 0);
+        Acts.one(p, 5, 0, 0);
         p.raise(0, 0, 0, 0, 4);
         p.addTarget(3, 3, 1, 1);
         p.addPass(0, 1, 1);
@@ -316,13 +328,38 @@ public final class MakingTest {
         Due.is("sent then", 1.0, p.sent());
         Due.outside("a mark that is gone", () -> p.back(1));
         Due.is("a new mark takes its number", 1, p.mark());
-        act(p, 4, 9, 0);
+        Acts.one(p, 4, 9, 0);
         Due.is("back to it", 0, p.back(1));
         // a mark is not changed by what comes behind it
         p.run(40);
         p.back(1);
         Due.is("still the same", 0, p.rover(0));
         plan("still the same plan", p, 1, 0, 3, 6, 1, 0);
+    }
+
+    private static void markedPieces() {
+        RoverPlanner p = new RoverPlanner();
+        p.addTarget(0, 0, 1, 1);
+        p.addTarget(1, 0, 1, 2);
+        p.addTarget(0, 1, 1, 4);
+        p.addPass(0, 1440, 20);
+        Acts.one(p, 1, 0, 3);
+        Acts.one(p, 1, 1, 4);
+        Acts.one(p, 2, 2, 2);
+        p.mark();
+        long digest = p.digest();
+        Acts.one(p, 3, 600, 0);
+        Acts.one(p, 1, 1, 9);
+        Acts.one(p, 1, 0, 8);
+        Acts.one(p, 1, 1, 7);
+        Acts.one(p, 1, 1, 6);
+        p.back(0);
+        int[] due = {0, 40, 3, 8, 1, 40, 4, 4, 2, 90, 2, 9};
+        for (int i = 0; i < due.length; i++) {
+            Due.is("piece " + i / 4 + " " + i % 4 + " at the mark", due[i], p.piece(i / 4, i % 4));
+        }
+        Due.is("nothing was sent at the mark", 0, p.target(0, 5) + p.target(0, 2) + p.target(2, 4));
+        Due.is("digest at the mark", digest, p.digest());
     }
 
     private static void markedWrong() {
@@ -347,17 +384,17 @@ public final class MakingTest {
         RoverPlanner p = new RoverPlanner();
         p.addTarget(0, 0, 1, 1);
         p.addPass(0, 1440, 20);
-        act(p, 1, 0, 1);
-        act(p, 1, 0, 1);
-        act(p, 1, 0, 1);
+        Acts.one(p, 1, 0, 1);
+        Acts.one(p, 1, 0, 1);
+        Acts.one(p, 1, 0, 1);
         p.mark();
-        act(p, 3, 4, 0);
+        Acts.one(p, 3, 4, 0);
         Due.is("setRover", 4000, p.setRover(200, 80));
         p.back(0);
         Due.is("a battery that is fuller is emptied", 200, p.rover(3));
         Due.is("capacity stays", 200, p.setRover(200, 120));
         p.back(0);
-        act(p, 3, 4, 0);
+        Acts.one(p, 3, 4, 0);
         p.setRover(200, 80);
         p.back(0);
         Due.is("more data than memory", 120, p.rover(7));
@@ -365,16 +402,16 @@ public final class MakingTest {
         Due.is("nothing new is kept", 4, p.reason());
         Due.state("setRover with less than the data", () -> p.setRover(200, 119));
         p.remove(0);
-        act(p, 3, 3, 0);
+        Acts.one(p, 3, 3, 0);
         p.put(0, 1, 0, 1);
         Due.is("still no room", 4, p.reason());
         p.remove(0);
-        act(p, 3, 1, 0);
+        Acts.one(p, 3, 1, 0);
         p.put(0, 1, 0, 1);
         Due.is("there is room", 0, p.reason());
         RoverPlanner q = new RoverPlanner();
         q.mark();
-        act(q, 5, 100, 0);
+        Acts.one(q, 5, 100, 0);
         q.setRover(20000, 800);
         q.back(0);
         Due.is("a greater capacity does not fill the battery", 3000, q.rover(3));
@@ -386,18 +423,18 @@ public final class MakingTest {
         p.addTarget(0, 0, 1, 4);
         p.addPass(0, 1440, 13);
         Due.is("sent of nothing", 1.0, p.sent());
-        act(p, 6, 1, 0);
-        act(p, 1, 0, 9);
+        Acts.one(p, 6, 1, 0);
+        Acts.one(p, 1, 0, 9);
         Due.is("sent of what is kept", 0.0, p.sent());
-        act(p, 3, 1, 0);
+        Acts.one(p, 3, 1, 0);
         Due.is("sent in part", 13.0 / 40.0, p.sent());
-        act(p, 2, 1, 1);
+        Acts.one(p, 2, 1, 1);
         Due.is("sent of both", 13.0 / 130.0, p.sent());
-        act(p, 3, 3, 0);
+        Acts.one(p, 3, 3, 0);
         Due.is("one sent as a whole", 52.0 / 130.0, p.sent());
-        act(p, 3, 600, 0);
+        Acts.one(p, 3, 600, 0);
         Due.is("all sent", 1.0, p.sent());
-        act(p, 1, 0, 9);
+        Acts.one(p, 1, 0, 9);
         Due.is("and one more", 130.0 / 170.0, p.sent());
     }
 

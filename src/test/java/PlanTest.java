@@ -8,6 +8,7 @@ public final class PlanTest {
         puttingWhatCannotBe();
         full();
         removing();
+        removingAmongOthers();
         moving();
         told();
         counts();
@@ -120,6 +121,27 @@ public final class PlanTest {
         }
         row("nothing is removed", p, 2, 3, 5, 6);
         Due.outside("remove from an empty plan", () -> new RoverPlanner().remove(0));
+    }
+
+    private static void removingAmongOthers() {
+        RoverPlanner p = new RoverPlanner();
+        p.addTarget(0, 0, 1, 1);
+        p.addTarget(0, 0, 1, 1);
+        p.put(0, 7, 0, 0);
+        p.put(1, 0, 5, 6);
+        p.put(2, 2, 1, 9);
+        p.put(3, 1, 0, 3);
+        p.remove(1);
+        int[] due = {7, 0, 0, 2, 1, 9, 1, 0, 3};
+        for (int i = 0; i < due.length; i++) {
+            Due.is("activity " + i / 3 + " " + i % 3, due[i], p.activity(i / 3, i % 3));
+        }
+        p.put(1, 0, 7, 8);
+        p.move(0, 3);
+        int[] then = {0, 7, 8, 2, 1, 9, 1, 0, 3, 7, 0, 0};
+        for (int i = 0; i < then.length; i++) {
+            Due.is("activity then " + i / 3 + " " + i % 3, then[i], p.activity(i / 3, i % 3));
+        }
     }
 
     private static void moving() {

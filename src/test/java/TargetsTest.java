@@ -18,16 +18,6 @@ public final class TargetsTest {
         Due.end("TargetsTest");
     }
 
-    /** Does this activity alone, and tells whether it was done. */
-    private static int act(RoverPlanner p, int kind, int a, int b) {
-        p.put(0, kind, a, b);
-        int done = p.run(1);
-        if (done == 0) {
-            p.remove(0);
-        }
-        return done;
-    }
-
     private static void targetsAdded() {
         RoverPlanner p = new RoverPlanner();
         for (int i = 0; i < 12; i++) {
@@ -84,26 +74,26 @@ public final class TargetsTest {
         p.addTarget(0, 0, 50, 2);
         p.addTarget(1, 1, 20, 1);
         p.addPass(0, 1440, 20);
-        act(p, 1, 0, 5);
+        Acts.one(p, 1, 0, 5);
         target(p, "one kept", 0, 0, 1, 0, 0);
-        act(p, 1, 0, 5);
+        Acts.one(p, 1, 0, 5);
         target(p, "the same octant again", 0, 0, 1, 0, 0);
-        act(p, 3, 3, 0);
+        Acts.one(p, 3, 3, 0);
         target(p, "one sent, one in part", 0, 1, 1, 0, 0);
-        act(p, 3, 1, 0);
+        Acts.one(p, 3, 1, 0);
         target(p, "both sent", 0, 1, 1, 0, 0);
         Due.is("no score yet", 0, p.score());
-        act(p, 0, 1, 0);
-        act(p, 1, 0, 5);
+        Acts.one(p, 0, 1, 0);
+        Acts.one(p, 1, 0, 5);
         target(p, "another octant kept", 0, 1, 2, 0, 0);
-        act(p, 3, 1, 0);
+        Acts.one(p, 3, 1, 0);
         target(p, "sent in part only", 0, 1, 2, 0, 0);
-        act(p, 3, 1, 0);
+        Acts.one(p, 3, 1, 0);
         target(p, "another octant sent", 0, 2, 2, 0, 1);
         target(p, "the other target", 1, 0, 0, 0, 0);
         Due.is("score", 50, p.score());
-        act(p, 1, 1, 5);
-        act(p, 3, 2, 0);
+        Acts.one(p, 1, 1, 5);
+        Acts.one(p, 3, 2, 0);
         target(p, "the other target sent", 1, 1, 1, 0, 1);
         Due.is("score of both", 70, p.score());
     }
@@ -113,18 +103,18 @@ public final class TargetsTest {
         p.addTarget(1, 1, 30, 4);
         p.addTarget(1, 0, 40, 1);
         p.addPass(0, 1440, 20);
-        Due.is("image of what is to be touched", 1, act(p, 1, 0, 1));
-        Due.is("sent", 1, act(p, 3, 9, 0));
+        Due.is("image of what is to be touched", 1, Acts.one(p, 1, 0, 1));
+        Due.is("sent", 1, Acts.one(p, 3, 9, 0));
         target(p, "an image is no touch", 0, 1, 1, 0, 0);
-        Due.is("heat", 1, act(p, 6, 1, 0));
-        Due.is("touch", 1, act(p, 2, 0, 1));
+        Due.is("heat", 1, Acts.one(p, 6, 1, 0));
+        Due.is("touch", 1, Acts.one(p, 2, 0, 1));
         target(p, "touch kept", 0, 1, 1, 0, 0);
-        act(p, 3, 4, 0);
+        Acts.one(p, 3, 4, 0);
         target(p, "touch sent in part", 0, 1, 1, 0, 0);
-        act(p, 3, 1, 0);
+        Acts.one(p, 3, 1, 0);
         target(p, "touch sent", 0, 1, 1, 1, 1);
-        Due.is("touch of what is to be seen", 1, act(p, 2, 1, 1));
-        Due.is("sent, too", 1, act(p, 3, 9, 0));
+        Due.is("touch of what is to be seen", 1, Acts.one(p, 2, 1, 1));
+        Due.is("sent, too", 1, Acts.one(p, 3, 9, 0));
         target(p, "a touch is no image", 1, 0, 0, 1, 0);
         Due.is("score", 30, p.score());
     }
@@ -177,7 +167,7 @@ public final class TargetsTest {
             Due.is("sky " + d[0], d[1], p.sky(d[0], false));
             Due.is("sky of air " + d[0], d[2], p.sky(d[0], true));
         }
-        act(p, 5, 0, 0);
+        Acts.one(p, 5, 0, 0);
         Due.is("clearness", 99, p.rover(6));
         // 360 * 99 / 3600 is 9.9, and 40 * 99 / 3600 is 1.1
         Due.is("sky 720 by the clearness of now", 9, p.sky(720, false));
@@ -197,7 +187,7 @@ public final class TargetsTest {
         Due.is("setRover more", 100, p.setRover(4000, 40));
         Due.is("battery is not filled", 100, p.rover(3));
         p.addTarget(1, 1, 1, 1);
-        Due.is("room for one", 1, act(p, 1, 0, 1));
+        Due.is("room for one", 1, Acts.one(p, 1, 0, 1));
         p.put(0, 1, 0, 1);
         Due.is("no room for two", 4, p.reason());
         p.setRover(4000, 79);
@@ -207,21 +197,27 @@ public final class TargetsTest {
         RoverPlanner q = new RoverPlanner();
         q.addTarget(0, 0, 1, 1);
         q.setRover(20000, 800);
-        act(q, 5, 500, 0);
-        act(q, 6, 1, 0);
-        act(q, 4, 600, 0);
+        Acts.one(q, 5, 500, 0);
+        Acts.one(q, 6, 1, 0);
+        Acts.one(q, 4, 600, 0);
         int images = 0;
         for (int i = 0; i < 25; i++) {
-            images += act(q, 1, 0, 1);
+            images += Acts.one(q, 1, 0, 1);
         }
         Due.is("a memory of 800 holds 20 images", 20, images);
+        q.addPass(0, 1440, 13);
+        Acts.one(q, 3, 3, 0);
+        Due.is("761 units are kept", 761, q.rover(7));
+        Due.is("a memory of 800 has no room for one more", 0, Acts.one(q, 1, 0, 1));
+        Acts.one(q, 3, 1, 0);
+        Due.is("748 units leave room", 1, Acts.one(q, 1, 0, 1));
     }
 
     private static void settingsWrong() {
         RoverPlanner p = new RoverPlanner();
         p.addTarget(0, 0, 1, 1);
-        act(p, 1, 0, 1);
-        act(p, 1, 0, 1);
+        Acts.one(p, 1, 0, 1);
+        Acts.one(p, 1, 0, 1);
         Due.argument("capacity 99", () -> p.setRover(99, 800));
         Due.argument("capacity 20001", () -> p.setRover(20001, 800));
         Due.argument("memory 39", () -> p.setRover(4000, 39));
@@ -230,7 +226,7 @@ public final class TargetsTest {
         Due.argument("the argument first", () -> p.setRover(99, 79));
         Due.is("nothing is changed", 4000, p.setRover(4000, 80));
         p.addPass(0, 1440, 1);
-        act(p, 3, 1, 0);
+        Acts.one(p, 3, 1, 0);
         Due.is("as many data as memory", 4000, p.setRover(4000, 79));
         Due.state("one more than memory", () -> p.setRover(4000, 78));
     }
@@ -239,8 +235,8 @@ public final class TargetsTest {
         RoverPlanner p = new RoverPlanner();
         p.addTarget(3, 2, 1, 1);
         p.addPass(0, 1440, 7);
-        act(p, 6, 1, 0);
-        act(p, 0, 2, 1);
+        Acts.one(p, 6, 1, 0);
+        Acts.one(p, 0, 2, 1);
         // 10 minutes of 5 (awake, heater), 24 for the one step and 16 for the other one
         int[] due = {10, 2, 1, 2910, -19, 1, 100, 0, 0, 0};
         for (int what = 0; what <= 9; what++) {
@@ -248,14 +244,14 @@ public final class TargetsTest {
                 Due.is("rover " + what, due[what], p.rover(what));
             }
         }
-        act(p, 1, 0, 4);
-        act(p, 1, 0, 4);
-        act(p, 3, 6, 0);
+        Acts.one(p, 1, 0, 4);
+        Acts.one(p, 1, 0, 4);
+        Acts.one(p, 3, 6, 0);
         Due.is("time", 28, p.rover(0));
         Due.is("units kept", 38, p.rover(7));
         Due.is("pieces kept", 1, p.rover(8));
         Due.is("units sent", 42, p.rover(9));
-        act(p, 6, 0, 0);
+        Acts.one(p, 6, 0, 0);
         Due.is("heater off", 0, p.rover(5));
         for (int beyond : new int[] {-1, 10, Integer.MIN_VALUE, Integer.MAX_VALUE}) {
             Due.outside("rover " + beyond, () -> p.rover(beyond));
@@ -274,11 +270,11 @@ public final class TargetsTest {
         p.addTarget(0, 0, 1, 3);
         p.addTarget(0, 3, 1, 3);
         Due.outside("piece without any", () -> p.piece(0, 0));
-        act(p, 6, 1, 0);
-        act(p, 1, 1, 2);
-        act(p, 2, 0, 9);
-        act(p, 1, 2, 2);
-        act(p, 1, 0, 9);
+        Acts.one(p, 6, 1, 0);
+        Acts.one(p, 1, 1, 2);
+        Acts.one(p, 2, 0, 9);
+        Acts.one(p, 1, 2, 2);
+        Acts.one(p, 1, 0, 9);
         piece(p, 0, 1, 40, 2, 8);
         piece(p, 1, 0, 90, 9, 9);
         piece(p, 2, 2, 40, 2, 6);
@@ -289,17 +285,17 @@ public final class TargetsTest {
         Due.outside("piece what -1", () -> p.piece(0, -1));
         Due.outside("piece what 4", () -> p.piece(0, 4));
         p.addPass(0, 1440, 20);
-        act(p, 3, 4, 0);
+        Acts.one(p, 3, 4, 0);
         piece(p, 1, 0, 10, 9, 9);
-        act(p, 3, 1, 0);
+        Acts.one(p, 3, 1, 0);
         piece(p, 0, 1, 40, 2, 8);
         piece(p, 1, 2, 40, 2, 6);
         piece(p, 2, 0, 30, 9, 5);
-        act(p, 3, 2, 0);
+        Acts.one(p, 3, 2, 0);
         piece(p, 0, 1, 30, 2, 8);
         piece(p, 1, 2, 40, 2, 6);
         Due.outside("piece that was sent", () -> p.piece(2, 0));
-        act(p, 3, 600, 0);
+        Acts.one(p, 3, 600, 0);
         Due.outside("no piece is left", () -> p.piece(0, 0));
         Due.is("all sent", 210, p.rover(9));
     }
@@ -310,16 +306,16 @@ public final class TargetsTest {
         p.addTarget(1, 0, 99, 4);
         p.addTarget(0, 1, 7, 1);
         p.addPass(0, 1440, 20);
-        act(p, 6, 1, 0);
-        act(p, 1, 0, 1);
-        act(p, 2, 1, 1);
-        act(p, 1, 2, 1);
+        Acts.one(p, 6, 1, 0);
+        Acts.one(p, 1, 0, 1);
+        Acts.one(p, 2, 1, 1);
+        Acts.one(p, 1, 2, 1);
         Due.is("score of what is kept only", 0, p.score());
-        act(p, 3, 2, 0);
+        Acts.one(p, 3, 2, 0);
         Due.is("score of one", 100, p.score());
-        act(p, 3, 5, 0);
+        Acts.one(p, 3, 5, 0);
         Due.is("score of two", 199, p.score());
-        act(p, 3, 5, 0);
+        Acts.one(p, 3, 5, 0);
         Due.is("score of all", 206, p.score());
     }
 }
