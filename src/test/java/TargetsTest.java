@@ -196,7 +196,6 @@ public final class TargetsTest {
         Due.is("room for two", 0, p.reason());
         RoverPlanner q = new RoverPlanner();
         q.addTarget(0, 0, 1, 1);
-        q.setRover(20000, 800);
         Acts.one(q, 5, 500, 0);
         Acts.one(q, 6, 1, 0);
         Acts.one(q, 4, 600, 0);
