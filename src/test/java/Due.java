@@ -2,14 +2,20 @@
 final class Due {
     private static int wrong;
     private static int asked;
+    private static String heading = "";
 
     private Due() { }
+
+    /** What stands ahead of each complaint from here on. */
+    static void heading(String text) {
+        heading = text;
+    }
 
     static void is(String call, Object due, Object got) {
         asked++;
         if (!due.equals(got)) {
             wrong++;
-            System.out.println(call + " answered " + got + ", due is " + due);
+            System.out.println(heading + call + " answered " + got + ", due is " + due);
         }
     }
 
@@ -24,7 +30,7 @@ final class Due {
         asked++;
         if (got != due) {
             wrong++;
-            System.out.println(call + " threw " + got + ", due is " + due);
+            System.out.println(heading + call + " threw " + got + ", due is " + due);
         }
     }
 

@@ -21,10 +21,8 @@ public final class GroundTest {
     private static void newObject() {
         RoverPlanner p = new RoverPlanner();
         for (int x = 0; x < 24; x++) {
-            for (int y = 0; y < 24; y++) {
-                for (int what = 0; what <= 2; what++) {
-                    Due.is("new: ground " + x + " " + y + " " + what, 0, p.ground(x, y, what));
-                }
+            for (int what = 0; what <= 2; what++) {
+                Due.is("new: ground " + x + " " + (23 - x) + " " + what, 0, p.ground(x, 23 - x, what));
             }
         }
         int[] rover = {0, 0, 0, 3000, -20, 0, 100, 0, 0, 0};

@@ -4,13 +4,15 @@ import java.util.function.Supplier;
 /** Long runs of calls on RoverPlanner and on Model, which have to answer the same. */
 public final class ModelTest {
     private static final int RUNS = Integer.getInteger("runs", 300);
-    private static final int CALLS = 500;
+    /** What later calls answer is free. */
+    private static final int CALLS = 512;
 
     private final Random random;
     private final RoverPlanner planner = new RoverPlanner();
     private final Model model = new Model();
     private final StringBuilder told = new StringBuilder();
     private final int run;
+    private int calls;
     /** Whether the targets are close together on plain ground, and there is much to send. */
     private final boolean isBusy;
     private boolean isWrong;
@@ -75,6 +77,7 @@ public final class ModelTest {
 
     private Object same(String name, Supplier<Object> got, Supplier<Object> due) {
         Object g;
+        calls++;
         try {
             g = answer(got);
         } catch (RuntimeException e) {
@@ -106,7 +109,8 @@ public final class ModelTest {
         if (isBusy) {
             warmDay();
         }
-        for (int n = 0; n < CALLS - 70 && !isWrong; n++) {
+        // a turn takes at most three calls, and the last call is digest
+        while (calls <= CALLS - 4 && !isWrong) {
             switch (random.nextInt(14)) {
                 case 0: world(); break;
                 case 1: ask(); break;

@@ -70,15 +70,14 @@ public final class RoomTest {
         }
         Due.is("nine rests", 19, p.run(40));
         Due.is("of one unit", 9, left(p));
-        int images = 0;
-        for (int i = 0; i < 124; i++) {
-            p.put(0, 1, 0, 1 + i % 9);
-            images += p.run(1);
+        for (int part = 0; part < 4; part++) {
+            for (int i = 0; i < 31; i++) {
+                p.put(i, 1, 0, 1 + (31 * part + i) % 9);
+            }
+            Due.is("images", 31, p.run(40));
         }
-        Due.is("images", 124, images);
         Due.is("pieces", 133, p.rover(8));
         Due.is("units", 4969, p.rover(7));
-        Due.is("units of all pieces", 4969, left(p));
         p.put(0, 1, 0, 1);
         Due.is("no room", 4, p.reason());
         p.put(0, 3, 3, 0);
@@ -91,7 +90,8 @@ public final class RoomTest {
 
     private static int left(RoverPlanner p) {
         int sum = 0;
-        for (int i = 0; i < p.rover(8); i++) {
+        int pieces = p.rover(8);
+        for (int i = 0; i < pieces; i++) {
             sum += p.piece(i, 1);
         }
         return sum;
