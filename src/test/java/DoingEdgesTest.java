@@ -1,14 +1,5 @@
 /** The boundary cases of promises 22 to 25, and of what activities do, sentence by sentence. */
-public final class DoingEdgesTest {
-    private static final int DRIVE = 0;
-    private static final int IMAGE = 1;
-    private static final int TOUCH = 2;
-    private static final int SEND = 3;
-    private static final int WAIT = 4;
-    private static final int SLEEP = 5;
-    private static final int HEAT = 6;
-    private static final int CLEAN = 7;
-
+public final class DoingEdgesTest implements Kinds {
     public static void main(String[] args) {
         checkPlaces();
         checkUpToTheFirst();

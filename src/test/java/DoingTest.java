@@ -1,14 +1,5 @@
 /** Promises 22 to 25: what activities do, minute by minute, and with what reasons they fail. */
-public final class DoingTest {
-    private static final int DRIVE = 0;
-    private static final int IMAGE = 1;
-    private static final int TOUCH = 2;
-    private static final int SEND = 3;
-    private static final int WAIT = 4;
-    private static final int SLEEP = 5;
-    private static final int HEAT = 6;
-    private static final int CLEAN = 7;
-
+public final class DoingTest implements Kinds {
     public static void main(String[] args) {
         minutes();
         sun();

@@ -1,15 +1,7 @@
 import java.math.BigInteger;
 
 /** The boundary cases of promises 26 to 31, sentence by sentence. */
-public final class MakingEdgesTest {
-    private static final int DRIVE = 0;
-    private static final int IMAGE = 1;
-    private static final int TOUCH = 2;
-    private static final int SEND = 3;
-    private static final int WAIT = 4;
-    private static final int SLEEP = 5;
-    private static final int HEAT = 6;
-
+public final class MakingEdgesTest implements Kinds {
     public static void main(String[] args) {
         makeLimits();
         makeForMinutes();

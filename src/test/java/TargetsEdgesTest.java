@@ -1,12 +1,5 @@
 /** The boundary cases of promises 8 to 16, sentence by sentence. */
-public final class TargetsEdgesTest {
-    private static final int DRIVE = 0;
-    private static final int IMAGE = 1;
-    private static final int TOUCH = 2;
-    private static final int SEND = 3;
-    private static final int SLEEP = 5;
-    private static final int HEAT = 6;
-
+public final class TargetsEdgesTest implements Kinds {
     public static void main(String[] args) {
         targetPlaces();
         targetNumbers();
